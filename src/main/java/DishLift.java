@@ -14,9 +14,9 @@ public final class DishLift {
     private final House told = new House();
     private final Acts acts = new Acts();
     private final House[] images = new House[IMAGES];
-    private final Foretold foretold = new Foretold(now);
-    private final Orders orders = new Orders(now);
-    private final Asks asks = new Asks(now);
+    private final Foretold foretold = new Foretold();
+    private final Orders orders = new Orders();
+    private final Asks asks = new Asks();
     private int finding;
 
     public DishLift() {
@@ -207,10 +207,10 @@ public final class DishLift {
     // ---- foretold
 
     public int ahead(int dish, int n, int what) {
-        if (!now.isDish(dish) || isNone(n, 0, FAR) || isNone(what, 0, 2)) {
+        if (!now.isDish(dish) || isOutside(n, 0, FAR) || isOutside(what, 0, 2)) {
             return BAD;
         }
-        House then = foretold.behind(n);
+        House then = foretold.behind(now, n);
         if (what == 0) {
             return then.at[dish];
         }
@@ -221,56 +221,56 @@ public final class DishLift {
         if (!now.stands()) {
             return STATE;
         }
-        return isNone(n, 0, FAR) ? BAD : foretold.behind(n).floor;
+        return isOutside(n, 0, FAR) ? BAD : foretold.behind(now, n).floor;
     }
 
     public int when(int dish) {
-        return now.isDish(dish) ? foretold.firstServed(1 << dish, FAR) : BAD;
+        return now.isDish(dish) ? foretold.firstServed(now, 1 << dish, FAR) : BAD;
     }
 
     public int done() {
-        return now.stands() ? foretold.firstServed(now.all(), FAR) : STATE;
+        return now.stands() ? foretold.firstServed(now, now.all(), FAR) : STATE;
     }
 
     public int fine(int n) {
         if (!now.stands()) {
             return STATE;
         }
-        return isNone(n, 0, FAR) ? BAD : foretold.behind(n).servedGood();
+        return isOutside(n, 0, FAR) ? BAD : foretold.behind(now, n).servedGood();
     }
 
     public int site(int n, int what) {
         if (!now.stands()) {
             return STATE;
         }
-        if (isNone(n, 1, NEAR) || isNone(what, 0, 1)) {
+        if (isOutside(n, 1, NEAR) || isOutside(what, 0, 1)) {
             return BAD;
         }
-        int best = foretold.bestStand(n);
-        return what == 0 ? best : foretold.goodFrom(best, n);
+        int best = foretold.bestStand(now, n);
+        return what == 0 ? best : foretold.goodFrom(now, best, n);
     }
 
     public int need(int n, int what) {
         if (!now.stands()) {
             return STATE;
         }
-        if (isNone(n, 1, NEAR) || isNone(what, 0, 1)) {
+        if (isOutside(n, 1, NEAR) || isOutside(what, 0, 1)) {
             return BAD;
         }
-        return what == 0 ? foretold.leastRoom(n) : foretold.leastRope(n);
+        return what == 0 ? foretold.leastRoom(now, n) : foretold.leastRope(now, n);
     }
 
     public int ranks(int n, int k) {
         if (!now.stands()) {
             return STATE;
         }
-        if (isNone(n, 1, NEAR) || k < -1) {
+        if (isOutside(n, 1, NEAR) || k < -1) {
             return BAD;
         }
         if (k >= now.dishes) {
             return NONE;
         }
-        orders.search(n);
+        orders.search(now, n);
         return k < 0 ? orders.least : orders.best[k];
     }
 
@@ -279,32 +279,32 @@ public final class DishLift {
             return STATE;
         }
         switch (what) {
-            case 0: return foretold.loads();
-            case 1: return foretold.fullestLoad();
-            case 2: return now.weightOf(foretold.fullestLoad());
+            case 0: return Foretold.loads(now);
+            case 1: return Foretold.fullestLoad(now);
+            case 2: return now.weightOf(Foretold.fullestLoad(now));
             default: return BAD;
         }
     }
 
     public int share(int dish, int n) {
-        if (!now.isDish(dish) || isNone(n, 0, 999)) {
+        if (!now.isDish(dish) || isOutside(n, 0, 999)) {
             return BAD;
         }
-        return foretold.shareOf(dish, n);
+        return Foretold.shareOf(now, dish, n);
     }
 
     public int byTurns(int n, int m) {
         if (!now.stands()) {
             return STATE;
         }
-        if (isNone(n, 0, Foretold.MOST_TURNS) || isNone(m, 1, 20)) {
+        if (isOutside(n, 0, Foretold.MOST_TURNS) || isOutside(m, 1, 20)) {
             return BAD;
         }
-        return foretold.playedFrom(now.floor, 0, n, m);
+        return foretold.played(now, n, m);
     }
 
     public int who(int dish, int which, int row, int i, int n) {
-        if (!now.isDish(dish) || isNone(which, 0, 5) || !Rows.isRow(row) || isNone(n, 1, 12)) {
+        if (!now.isDish(dish) || isOutside(which, 0, 5) || !Rows.isRow(row) || isOutside(n, 1, 12)) {
             return BAD;
         }
         if (rows.isMissing(row)) {
@@ -313,14 +313,14 @@ public final class DishLift {
         if (!rows.covers(row, i, n)) {
             return found(PLACE);
         }
-        return foundNothing(foretold.allThatFits(dish, which, rows.items[row], i, n));
+        return foundNothing(foretold.allThatFits(now, dish, which, rows.items[row], i, n));
     }
 
     public long stuck(int dish, int n, int p, int what) {
-        if (!now.isDish(dish) || isNone(n, 0, Foretold.MOST_STUCK) || isNone(p, 0, 10) || isNone(what, 0, 1)) {
+        if (!now.isDish(dish) || isOutside(n, 0, Foretold.MOST_STUCK) || isOutside(p, 0, 10) || isOutside(what, 0, 1)) {
             return BAD;
         }
-        long above = foretold.casesServed(dish, n, p);
+        long above = foretold.casesServed(now, dish, n, p);
         long below = Foretold.casesInAll(n);
         long common = Foretold.commonDivisor(above, below);
         return (what == 0 ? above : below) / common;
@@ -330,15 +330,15 @@ public final class DishLift {
         if (!now.stands()) {
             return STATE;
         }
-        if (isNone(n, 0, FAR) || isNone(seed, 1, 999999) || isNone(what, 0, 1)) {
+        if (isOutside(n, 0, FAR) || isOutside(seed, 1, 999999) || isOutside(what, 0, 1)) {
             return BAD;
         }
-        int servedAnew = foretold.draw(n, seed);
+        int servedAnew = foretold.draw(now, n, seed);
         return what == 0 ? servedAnew : foretold.trial.heatOf(now.all());
     }
 
     public int image(int k) {
-        if (isNone(k, 0, IMAGES - 1)) {
+        if (isOutside(k, 0, IMAGES - 1)) {
             return BAD;
         }
         if (!now.stands()) {
@@ -352,7 +352,7 @@ public final class DishLift {
     }
 
     public int restore(int k) {
-        if (isNone(k, 0, IMAGES - 1)) {
+        if (isOutside(k, 0, IMAGES - 1)) {
             return BAD;
         }
         if (images[k] == null) {
@@ -377,10 +377,10 @@ public final class DishLift {
     }
 
     public int ask(int one, int what) {
-        if (!now.isDish(one) || isNone(what, Asks.SIZES, Asks.MARKS)) {
+        if (!now.isDish(one) || isOutside(what, Asks.SIZES, Asks.MARKS)) {
             return BAD;
         }
-        return asks.answer(one, what);
+        return asks.answer(now, one, what);
     }
 
     public int trace(int i) {
@@ -416,7 +416,7 @@ public final class DishLift {
         return answer;
     }
 
-    private static boolean isNone(int v, int least, int most) {
+    private static boolean isOutside(int v, int least, int most) {
         return v < least || v > most;
     }
 
@@ -893,15 +893,10 @@ public final class DishLift {
         static final int MOST_TURNS = 4, MOST_STUCK = 8;
         private static final int KINDS = 0, FLOORS = 1, HEATS = 2, ROPES = 3;
 
-        private final House now;
         final House trial = new House();
         private final House[] line = new House[MOST_STUCK + 1];
 
-        Foretold(House now) {
-            this.now = now;
-        }
-
-        House behind(int n) {
+        House behind(House now, int n) {
             trial.become(now);
             passTrial(n);
             return trial;
@@ -913,7 +908,7 @@ public final class DishLift {
             }
         }
 
-        int firstServed(int wanted, int most) {
+        int firstServed(House now, int wanted, int most) {
             trial.become(now);
             for (int n = 0; n <= most; n++) {
                 if ((trial.served() & wanted) == wanted) {
@@ -924,11 +919,11 @@ public final class DishLift {
             return NONE;
         }
 
-        int bestStand(int n) {
+        int bestStand(House now, int n) {
             int best = 0;
             int most = -1;
             for (int f = 0; f < now.floors; f++) {
-                int good = goodFrom(f, n);
+                int good = goodFrom(now, f, n);
                 if (good > most) {
                     most = good;
                     best = f;
@@ -937,32 +932,32 @@ public final class DishLift {
             return best;
         }
 
-        int goodFrom(int floor, int n) {
+        int goodFrom(House now, int floor, int n) {
             trial.become(now);
             trial.floor = floor;
             passTrial(n);
             return Integer.bitCount(trial.servedGood());
         }
 
-        int leastRoom(int n) {
+        int leastRoom(House now, int n) {
             for (int room = 1; room <= House.WIDEST; room++) {
-                if (servesAll(room, now.rope, n)) {
+                if (servesAll(now, room, now.rope, n)) {
                     return room;
                 }
             }
             return NONE;
         }
 
-        int leastRope(int n) {
+        int leastRope(House now, int n) {
             for (int rope = 1; rope <= House.STRONGEST; rope++) {
-                if (servesAll(now.room, rope, n)) {
+                if (servesAll(now, now.room, rope, n)) {
                     return rope;
                 }
             }
             return NONE;
         }
 
-        private boolean servesAll(int room, int rope, int n) {
+        private boolean servesAll(House now, int room, int rope, int n) {
             trial.become(now);
             trial.room = room;
             trial.rope = rope;
@@ -970,35 +965,35 @@ public final class DishLift {
             return trial.served() == trial.all();
         }
 
-        private boolean isLoad(int bits) {
+        private static boolean isLoad(House now, int bits) {
             return (bits & now.served()) == 0 && Integer.bitCount(bits) <= now.room
                     && now.weightOf(bits) <= now.rope;
         }
 
-        int loads() {
+        static int loads(House now) {
             int sum = 0;
             for (int bits = 0; bits <= now.all(); bits++) {
-                sum += isLoad(bits) ? 1 : 0;
+                sum += isLoad(now, bits) ? 1 : 0;
             }
             return sum;
         }
 
-        int fullestLoad() {
+        static int fullestLoad(House now) {
             int best = 0;
             for (int bits = 1; bits <= now.all(); bits++) {
-                if (isLoad(bits) && isFuller(bits, best)) {
+                if (isLoad(now, bits) && isFuller(now, bits, best)) {
                     best = bits;
                 }
             }
             return best;
         }
 
-        private boolean isFuller(int bits, int than) {
+        private static boolean isFuller(House now, int bits, int than) {
             int more = now.weightOf(bits) - now.weightOf(than);
             return more > 0 || more == 0 && Integer.bitCount(bits) > Integer.bitCount(than);
         }
 
-        int shareOf(int dish, int n) {
+        static int shareOf(House now, int dish, int n) {
             int sharing = now.all() & ~now.served();
             int whole = now.heatOf(sharing);
             if (whole == 0 || (sharing >> dish & 1) == 0 || now.heat[dish] == 0) {
@@ -1015,22 +1010,26 @@ public final class DishLift {
             return n * now.heat[dish] / whole + (earlier < over ? 1 : 0);
         }
 
+        int played(House now, int turns, int minutes) {
+            return playedFrom(now, now.floor, 0, turns, minutes);
+        }
+
         /** The cook has the even turns, the butler the odd ones. */
-        int playedFrom(int floor, int turn, int turns, int minutes) {
+        private int playedFrom(House now, int floor, int turn, int turns, int minutes) {
             if (turn >= turns || turn >= MOST_TURNS) {
-                return heatServedFrom(floor, minutes);
+                return heatServedFrom(now, floor, minutes);
             }
             boolean cook = turn % 2 == 0;
-            int left = playedFrom(floor, turn + 1, turns, minutes);
+            int left = playedFrom(now, floor, turn + 1, turns, minutes);
             int next = cook ? floor - 1 : floor + 1;
             if (!now.isFloor(next)) {
                 return left;
             }
-            int pulled = playedFrom(next, turn + 1, turns, minutes);
+            int pulled = playedFrom(now, next, turn + 1, turns, minutes);
             return cook ? Math.max(left, pulled) : Math.min(left, pulled);
         }
 
-        private int heatServedFrom(int floor, int minutes) {
+        private int heatServedFrom(House now, int floor, int minutes) {
             trial.become(now);
             trial.floor = floor;
             passTrial(minutes);
@@ -1038,14 +1037,14 @@ public final class DishLift {
         }
 
         /** Which 0 and 1 ask for bits, above these an even one for how many, an odd one for the least. */
-        int allThatFits(int dish, int which, int[] row, int from, int n) {
+        int allThatFits(House now, int dish, int which, int[] row, int from, int n) {
             int about = which < HEATS ? which : which / 2 + 1;
             int bits = 0;
             int sum = 0;
             int least = NONE;
-            int last = lastOf(about);
+            int last = lastOf(now, about);
             for (int v = about == KINDS || about == ROPES ? 1 : 0; v <= last; v++) {
-                suppose(about, dish, v);
+                suppose(now, about, dish, v);
                 if (isTold(dish, row, from, n)) {
                     bits |= about == KINDS || about == FLOORS ? 1 << v : 0;
                     least = sum == 0 ? v : least;
@@ -1058,7 +1057,7 @@ public final class DishLift {
             return which % 2 == 0 ? sum : least;
         }
 
-        private int lastOf(int about) {
+        private static int lastOf(House now, int about) {
             switch (about) {
                 case KINDS: return Asks.ICE;
                 case FLOORS: return now.floors - 1;
@@ -1067,7 +1066,7 @@ public final class DishLift {
             }
         }
 
-        private void suppose(int about, int dish, int v) {
+        private void suppose(House now, int about, int dish, int v) {
             trial.become(now);
             switch (about) {
                 case KINDS:
@@ -1114,7 +1113,7 @@ public final class DishLift {
             return y;
         }
 
-        long casesServed(int dish, int n, int p) {
+        long casesServed(House now, int dish, int n, int p) {
             lineAt(0).become(now);
             return casesFrom(0, dish, n, p);
         }
@@ -1149,7 +1148,7 @@ public final class DishLift {
         }
 
         /** Answers how many were served anew; the trial is then as the days have left the house. */
-        int draw(int n, int seed) {
+        int draw(House now, int n, int seed) {
             trial.become(now);
             if (!trial.stands() || trial.floors < 1) {
                 return 0;
@@ -1175,7 +1174,6 @@ public final class DishLift {
 
     /** The order for rank by which all are served soonest; kept, as it is asked for one dish at a time. */
     private static final class Orders {
-        private final House now;
         private final House trial = new House();
         private final House searched = new House();
         private final int[] order = new int[House.MOST];
@@ -1183,11 +1181,7 @@ public final class DishLift {
         private int minutes;
         int least;
 
-        Orders(House now) {
-            this.now = now;
-        }
-
-        void search(int n) {
+        void search(House now, int n) {
             if (n == minutes && now.isAs(searched)) {
                 return;
             }
@@ -1198,11 +1192,11 @@ public final class DishLift {
         }
 
         private void fill(int depth, int used) {
-            if (depth >= now.dishes || depth >= House.MOST) {
+            if (depth >= searched.dishes || depth >= House.MOST) {
                 weigh();
                 return;
             }
-            for (int d = 0; d < now.dishes; d++) {
+            for (int d = 0; d < searched.dishes; d++) {
                 if ((used >> d & 1) == 0 && !isNeedless(depth, d)) {
                     order[depth] = d;
                     fill(depth + 1, used | 1 << d);
@@ -1216,12 +1210,12 @@ public final class DishLift {
                 return false;
             }
             int before = order[depth - 1];
-            return before > d && (now.at[before] != now.at[d] || now.at[d] >= House.IN_CAR);
+            return before > d && (searched.at[before] != searched.at[d] || searched.at[d] >= House.IN_CAR);
         }
 
         /** Each minute costs 1 for each dish that is not served ahead of it, the end 1 for each that is not. */
         private void weigh() {
-            trial.become(now);
+            trial.become(searched);
             int cost = 0;
             for (int k = 0; k <= minutes; k++) {
                 int open = trial.dishes - Integer.bitCount(trial.served());
@@ -1247,13 +1241,8 @@ public final class DishLift {
         private static final int[] SIZE_BODIES = {10, 11, 12, 11, 13, 14};
         private static final int[] MARK_BODIES = {20, 21, 24, 22, 23, 23};
 
-        private final House now;
         final int[] numbers = new int[TRACED];
         int left;
-
-        Asks(House now) {
-            this.now = now;
-        }
 
         static boolean isKind(int kind) {
             return kind >= 0 && kind < NEXT_KIND.length;
@@ -1263,12 +1252,12 @@ public final class DishLift {
             return of == 0 || kind == of || isKind(kind) && NEXT_KIND[kind] == of;
         }
 
-        int answer(int one, int what) {
+        int answer(House now, int one, int what) {
             left = 0;
-            return begin(bodyFor(one, what), one, 0);
+            return begin(now, bodyFor(now, one, what), one, 0);
         }
 
-        private int bodyFor(int one, int what) {
+        private static int bodyFor(House now, int one, int what) {
             int kind = now.kind[one];
             if (!isKind(kind)) {
                 return 0;
@@ -1276,7 +1265,7 @@ public final class DishLift {
             return what == SIZES ? SIZE_BODIES[kind] : MARK_BODIES[kind];
         }
 
-        private int begin(int body, int one, int depth) {
+        private int begin(House now, int body, int one, int depth) {
             if (depth > DEEPEST) {
                 return 0;
             }
@@ -1284,15 +1273,15 @@ public final class DishLift {
             int next = depth + 1;
             switch (body) {
                 case 10: return now.weight[one];
-                case 11: return begin(10, one, next) + begin(bodyFor(one, MARKS), one, next);
-                case 12: return -begin(11, one, next);
-                case 13: return begin(10, one, next) - 100;
-                case 14: return 2 * begin(13, one, next);
+                case 11: return begin(now, 10, one, next) + begin(now, bodyFor(now, one, MARKS), one, next);
+                case 12: return -begin(now, 11, one, next);
+                case 13: return begin(now, 10, one, next) - 100;
+                case 14: return 2 * begin(now, 13, one, next);
                 case 20: return one;
-                case 21: return begin(20, one, next) + now.heat[one];
-                case 22: return begin(21, one, next) - 1000;
-                case 23: return begin(20, one, next) - begin(bodyFor(one, SIZES), one, next);
-                case 24: return 2 * begin(21, one, next);
+                case 21: return begin(now, 20, one, next) + now.heat[one];
+                case 22: return begin(now, 21, one, next) - 1000;
+                case 23: return begin(now, 20, one, next) - begin(now, bodyFor(now, one, SIZES), one, next);
+                case 24: return 2 * begin(now, 21, one, next);
                 default: return 0;
             }
         }
