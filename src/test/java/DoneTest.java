@@ -315,6 +315,9 @@ public final class DoneTest {
         check.due("restore -1", x.restore(-1), BAD);
         Check.tell(x, TWO);
         check.due("image 2", x.image(2), BAD);
+        check.due("image most", x.image(MOST), BAD);
+        check.due("restore 2", x.restore(2), BAD);
+        check.due("restore least", x.restore(LEAST), BAD);
         check.due("none was kept", x.restore(1), STATE);
         x.minutes(3);
         check.due("image", x.image(1), 1);

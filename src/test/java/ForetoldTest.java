@@ -9,10 +9,12 @@ public final class ForetoldTest {
     public static void main(String[] args) {
         aheadAndLater();
         whenAndDone();
+        sixtyMinutes();
         fines();
         sites();
         needs();
         ranks();
+        ranksAnew();
         holds();
         shares();
         turns();
@@ -76,6 +78,19 @@ public final class ForetoldTest {
         check.due("not all", x.done(), NONE);
         check.due("the other", x.when(1), 0);
         check.due("ice, when it is light enough", Check.of("d2,1,1;i0,1,9,0;").when(0), 19);
+    }
+
+    /** Room for one, trips there and back: 16, 16, 16 and 6 minutes, then 6 or 7. */
+    private static void sixtyMinutes() {
+        DishLift x = Check.of("d9,1,9;h0,8,1,1;h0,8,1,1;h0,8,1,1;h0,3,1,1;h0,5,1,1;");
+        check.due("the last but one", x.when(3), 52);
+        check.due("behind 60", x.when(4), 60);
+        check.due("all behind 60", x.done(), 60);
+        x = Check.of("d9,1,9;h0,8,1,1;h0,8,1,1;h0,8,1,1;h0,3,1,1;h0,6,1,1;");
+        check.due("behind 61", x.when(4), NONE);
+        check.due("all behind 61", x.done(), NONE);
+        x.minutes(1);
+        check.due("behind 60 now", x.when(4), 60);
     }
 
     private static void fines() {
@@ -157,6 +172,30 @@ public final class ForetoldTest {
         check.due("one is served", x.ranks(40, -1), 1);
         x.undo();
         check.due("and one minute ago", x.ranks(40, -1), 3);
+    }
+
+    /** One thing is another each time, n stays: what was found before must not be told again. */
+    private static void ranksAnew() {
+        DishLift x = Check.of("d4,1,4;h0,3,4,30;h0,1,3,30;i0,2,5,8;");
+        check.due("at first", x.ranks(20, -1), 2 + 5 + 10);
+        check.due("the same again", x.ranks(20, -1), 2 + 5 + 10);
+        x.rope(3);
+        check.due("ROPE", x.ranks(20, -1), 2 + 7 + 21);
+        x.room(4);
+        x.rope(12);
+        check.due("ROOM", x.ranks(20, -1), 2 + 3 + 4);
+        x.pull(3);
+        check.due("CAR", x.ranks(20, -1), 5 + 6 + 7);
+        x.undo();
+        check.due("undone", x.ranks(20, -1), 2 + 3 + 4);
+        x.minutes(1);
+        check.due("MINUTE", x.ranks(20, -1), 1 + 2 + 3);
+        x.minutes(3);
+        check.due("all are served", x.ranks(20, -1), 0);
+        x.send(1, 0, 9);
+        check.due("sent back", x.ranks(20, -1), 4);
+        Check.tell(x, "d2,1,1;h0,0,1,1;");
+        check.due("another house", x.ranks(20, -1), 1);
     }
 
     private static void holds() {
@@ -322,6 +361,9 @@ public final class ForetoldTest {
         part(x, 8, 10, 1, 1);
         DishLift ice = Check.of("d2,1,1;i0,1,3,10;");
         part(ice, 4, 5, 1, 4);
+        DishLift soup = Check.of("d3,2,9;h1,2,2,30;s0,2,9,30;");
+        part(soup, 4, 5, 0, 1);
+        part(soup, 5, 5, 1, 32);
     }
 
     private static void drawn() {
