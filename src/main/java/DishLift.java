@@ -1102,6 +1102,7 @@ public final class DishLift {
             return cases;
         }
 
+        /** At least 1, so that it divides whatever is given. */
         static long commonDivisor(long a, long b) {
             long x = a;
             long y = b;
@@ -1110,7 +1111,7 @@ public final class DishLift {
                 y = x;
                 x = rest;
             }
-            return y;
+            return Math.max(1, y);
         }
 
         long casesServed(House now, int dish, int n, int p) {
@@ -1174,6 +1175,8 @@ public final class DishLift {
 
     /** The order for rank by which all are served soonest; kept, as it is asked for one dish at a time. */
     private static final class Orders {
+        private static final int ABOVE_ALL = 1000;
+
         private final House trial = new House();
         private final House searched = new House();
         private final int[] order = new int[House.MOST];
@@ -1187,7 +1190,7 @@ public final class DishLift {
             }
             searched.become(now);
             minutes = n;
-            least = Integer.MAX_VALUE;
+            least = ABOVE_ALL;
             fill(0, 0);
         }
 

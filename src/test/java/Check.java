@@ -2,12 +2,18 @@
 final class Check {
     private int wrong;
     private int all;
+    private String about = "";
+
+    /** What follows tests this sentence of the document, which is told with each answer that is not as due. */
+    void sentence(String words) {
+        about = "\"" + words + "\": ";
+    }
 
     void due(String call, long got, long want) {
         all++;
         if (got != want) {
             wrong++;
-            System.out.println(call + " answered " + got + ", due is " + want);
+            System.out.println(about + call + " answered " + got + ", due is " + want);
         }
     }
 
@@ -15,7 +21,7 @@ final class Check {
         all++;
         if (!so) {
             wrong++;
-            System.out.println("not so: " + what);
+            System.out.println(about + "not so: " + what);
         }
     }
 
@@ -31,6 +37,16 @@ final class Check {
         DishLift x = new DishLift();
         if (tell(x, text) < 0) {
             throw new IllegalArgumentException(text);
+        }
+        return x;
+    }
+
+    /** A house, and row 0 of ints with these items. */
+    static DishLift withRow(String text, int... items) {
+        DishLift x = of(text);
+        x.row(0, 2, items.length);
+        for (int i = 0; i < items.length; i++) {
+            x.set(0, i, items[i]);
         }
         return x;
     }

@@ -266,17 +266,8 @@ public final class ForetoldTest {
         check.due("m 21", x.byTurns(0, 21), BAD);
     }
 
-    private static DishLift withRow(String text, int... items) {
-        DishLift x = Check.of(text);
-        x.row(0, 2, items.length);
-        for (int i = 0; i < items.length; i++) {
-            x.set(0, i, items[i]);
-        }
-        return x;
-    }
-
     private static void kindsAndFloorsThatFit() {
-        DishLift x = withRow("d3,1,9;h0,2,5,30;", 7, 29, 28, 28, 28, 31, 30, 30);
+        DishLift x = Check.withRow("d3,1,9;h0,2,5,30;", 7, 29, 28, 28, 28, 31, 30, 30);
         check.due("hot, soup", x.who(0, 0, 0, 1, 4), 6);
         check.due("floor 0", x.who(0, 1, 0, 1, 4), 1);
         check.due("all floors, 2 minutes", x.who(0, 1, 0, 1, 2), 7);
@@ -284,18 +275,18 @@ public final class ForetoldTest {
         check.due("roast", x.who(0, 0, 0, 6, 1), 8);
         check.due("none", x.who(0, 0, 0, 0, 1), 0);
         check.due("no floor", x.who(0, 1, 0, 0, 1), 0);
-        DishLift served = withRow("d2,1,9;c0,0,5,30;", 30, 30);
+        DishLift served = Check.withRow("d2,1,9;c0,0,5,30;", 30, 30);
         served.minutes(1);
         check.due("all kinds", served.who(0, 0, 0, 0, 2), 62);
         check.due("all floors", served.who(0, 1, 0, 0, 2), 3);
-        DishLift heavy = withRow("d2,1,4;h0,1,5,12;", 13, 14, 14);
+        DishLift heavy = Check.withRow("d2,1,4;h0,1,5,12;", 13, 14, 14);
         check.due("ice melts, so that it is served", heavy.who(0, 0, 0, 0, 3), 32);
         heavy.set(0, 2, 15);
         check.due("cold waits for good", heavy.who(0, 0, 0, 0, 3), 16);
     }
 
     private static void heatsAndRopesThatFit() {
-        DishLift x = withRow("d3,1,9;h0,2,5,30;", 7, 29, 28, 28, 28, 0, 0, 29, 28, 27);
+        DishLift x = Check.withRow("d3,1,9;h0,2,5,30;", 7, 29, 28, 28, 28, 0, 0, 29, 28, 27);
         check.due("heats", x.who(0, 2, 0, 1, 4), 1);
         check.due("least", x.who(0, 3, 0, 1, 4), 30);
         check.due("ropes", x.who(0, 4, 0, 1, 4), 36);
@@ -309,7 +300,7 @@ public final class ForetoldTest {
         check.due("no least", x.who(0, 3, 0, 0, 2), NONE);
         check.due("no rope", x.who(0, 4, 0, 0, 1), 0);
         check.due("no least", x.who(0, 5, 0, 0, 1), NONE);
-        DishLift cold = withRow("d2,1,9;c0,1,5,30;", 60, 60);
+        DishLift cold = Check.withRow("d2,1,9;c0,1,5,30;", 60, 60);
         check.due("heats 59, 60", cold.who(0, 2, 0, 0, 1), 2);
         check.due("least", cold.who(0, 3, 0, 0, 1), 59);
     }
@@ -387,7 +378,7 @@ public final class ForetoldTest {
     }
 
     private static void nothingChanges() {
-        DishLift x = withRow(TWO, 29, 28);
+        DishLift x = Check.withRow(TWO, 29, 28);
         x.minutes(1);
         x.ahead(0, 9, 0);
         x.later(9);

@@ -129,7 +129,7 @@ public final class FormTest {
             check.holds("import " + imports.group(1), imports.group(1).equals("java.util.Arrays"));
         }
         Matcher calls = Pattern.compile("\\b(System|Arrays|Math|Integer|Long)\\.(\\w+)").matcher(bare);
-        Set<String> may = Set.of("System.arraycopy", "Arrays.fill", "Math.max", "Math.min", "Integer.bitCount", "Integer.MAX_VALUE");
+        Set<String> may = Set.of("System.arraycopy", "Arrays.fill", "Math.max", "Math.min", "Integer.bitCount");
         while (calls.find()) {
             check.holds(calls.group(), may.contains(calls.group()));
         }
